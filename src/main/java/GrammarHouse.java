@@ -249,6 +249,7 @@ public final class GrammarHouse {
         if (!isPlace(k)) {
             return UNKNOWN;
         }
+        chart.refresh();
         return chart.covers(0, 0, k) ? 1 : 0;
     }
 
@@ -256,14 +257,22 @@ public final class GrammarHouse {
         if (!hasGrammar) {
             return STATE;
         }
-        return isPlace(k) ? chart.goOnAt(k) : UNKNOWN;
+        if (!isPlace(k)) {
+            return UNKNOWN;
+        }
+        chart.refresh();
+        return chart.goOn[k];
     }
 
     public int items(int k) {
         if (!hasGrammar) {
             return STATE;
         }
-        return isPlace(k) ? chart.itemsAt(k) : UNKNOWN;
+        if (!isPlace(k)) {
+            return UNKNOWN;
+        }
+        chart.refresh();
+        return chart.itemCount[k];
     }
 
     public int isItem(int r, int d, int i, int k) {
@@ -276,6 +285,7 @@ public final class GrammarHouse {
         if (!hasGrammar) {
             return STATE;
         }
+        chart.refresh();
         return chart.hasItem(r, d, i, k) ? 1 : 0;
     }
 
@@ -289,6 +299,7 @@ public final class GrammarHouse {
         if (!hasGrammar) {
             return STATE;
         }
+        chart.refresh();
         return chart.covers(n, i, j) ? 1 : 0;
     }
 
@@ -296,7 +307,11 @@ public final class GrammarHouse {
         if (!hasGrammar) {
             return STATE;
         }
-        return isPlace(k) ? wants.behind(k) : UNKNOWN;
+        if (!isPlace(k)) {
+            return UNKNOWN;
+        }
+        chart.refresh();
+        return wants.behind(k);
     }
 
     public int repair() {
@@ -315,6 +330,7 @@ public final class GrammarHouse {
         if (!hasGrammar) {
             return STATE;
         }
+        chart.refresh();
         long many = forest.treesOf(n, i, j);
         return many < MANY ? many : SEVERAL;
     }
@@ -326,7 +342,8 @@ public final class GrammarHouse {
         if (!hasGrammar) {
             return STATE;
         }
-        return picker.choose(k, text.count);
+        chart.refresh();
+        return k < forest.treesOf(0, 0, text.count) ? picker.choose(k) : NONE;
     }
 
     public int step(int i) {
@@ -364,6 +381,7 @@ public final class GrammarHouse {
         if (!isPlace(k)) {
             return UNKNOWN;
         }
+        chart.refresh();
         // The proper grammar has the same texts but the empty one.
         return k > 0 && chart.covers(0, 0, k) ? 1 : 0;
     }
@@ -906,12 +924,16 @@ public final class GrammarHouse {
         }
 
         int partAt(int r, int i) {
-            return parts[r * PARTS + i];
+            return r >= 0 && r < rules && i >= 0 && i < size[r] ? parts[r * PARTS + i] : 0;
         }
 
-        /** The name that a part of a rule is; NONE: it is a set. */
+        /** The name that a part is; NONE: it is a set. */
+        int nameOf(int part) {
+            return part < 0 && part >= -names ? -1 - part : NONE;
+        }
+
         int nameAt(int r, int i) {
-            return Math.max(-1 - parts[r * PARTS + i], NONE);
+            return nameOf(partAt(r, i));
         }
 
         int behindRules(int n) {
@@ -1197,7 +1219,8 @@ public final class GrammarHouse {
                     return false;
                 }
                 top--;
-                if (!(open[top] < 0 ? putRule(-1 - open[top]) : putLetter(open[top]))) {
+                int n = grammar.nameOf(open[top]);
+                if (!(n != NONE ? putRule(n) : putLetter(open[top]))) {
                     return false;
                 }
             }
@@ -1215,7 +1238,7 @@ public final class GrammarHouse {
             int mine = (1 << grammar.behindRules(n)) - (1 << grammar.firstRule[n]);
             int choices = facts.usefulRules & mine;
             int r = bitAt(choices, draw(Integer.bitCount(choices)));
-            if (r == NONE || top + grammar.size[r] > open.length) {
+            if (r < 0 || r >= RULES || top + grammar.size[r] > open.length) {
                 return false;
             }
             for (int d = grammar.size[r] - 1; d >= 0; d--) {
@@ -1237,11 +1260,16 @@ public final class GrammarHouse {
 
         /** Where the bit stands that has so many set ones below it. */
         private static int bitAt(int bits, int below) {
-            int left = bits;
-            for (int i = 0; i < below; i++) {
-                left &= left - 1;
+            int left = below;
+            for (int at = 0; at < ALPHABET; at++) {
+                if ((bits >> at & 1) != 0) {
+                    if (left == 0) {
+                        return at;
+                    }
+                    left--;
+                }
             }
-            return left == 0 ? NONE : Integer.numberOfTrailingZeros(left);
+            return NONE;
         }
     }
 
@@ -1255,8 +1283,8 @@ public final class GrammarHouse {
         /** At a place the names that steps from name 0 lead to, right behind sets for the letters ahead. */
         private final int[] awaited = new int[PLACES];
         private final int[] usefully = new int[PLACES];
-        private final int[] itemCount = new int[PLACES];
-        private final int[] goOn = new int[PLACES];
+        final int[] itemCount = new int[PLACES];
+        final int[] goOn = new int[PLACES];
 
         Chart(Grammar grammar, Facts facts, Text text) {
             this.grammar = grammar;
@@ -1265,22 +1293,10 @@ public final class GrammarHouse {
         }
 
         boolean covers(int n, int i, int j) {
-            refresh();
             return (ends[n * PLACES + i] >> j & 1) != 0;
         }
 
-        int goOnAt(int k) {
-            refresh();
-            return goOn[k];
-        }
-
-        int itemsAt(int k) {
-            refresh();
-            return itemCount[k];
-        }
-
         boolean hasItem(int r, int d, int i, int k) {
-            refresh();
             return (awaited[i] >> grammar.nameOfRule[r] & 1) != 0 && (endsOfRow(r, d, i) >> k & 1) != 0;
         }
 
@@ -1325,12 +1341,14 @@ public final class GrammarHouse {
             return places;
         }
 
+        /** Up to where a part makes the letters from any of some places. */
         int beyond(int part, int places) {
+            int n = grammar.nameOf(part);
             int found = 0;
             for (int k = 0; k <= text.count; k++) {
                 if ((places >> k & 1) != 0) {
-                    if (part < 0) {
-                        found |= ends[(-1 - part) * PLACES + k];
+                    if (n != NONE) {
+                        found |= ends[n * PLACES + k];
                     } else if (text.fits(part, k)) {
                         found |= 1 << k + 1;
                     }
@@ -1345,10 +1363,14 @@ public final class GrammarHouse {
             names[0] = 1;
             for (int i = 0; i <= text.count; i++) {
                 int done = 0;
-                for (int round = 0; round < NAMES && names[i] != done; round++) {
-                    int n = Integer.numberOfTrailingZeros(names[i] & ~done);
-                    done |= 1 << n;
-                    for (int r = grammar.firstRule[n]; r < grammar.behindRules(n); r++) {
+                // Each round but the last goes on from a further name.
+                for (int round = 0; round <= NAMES && names[i] != done; round++) {
+                    int open = names[i] & ~done;
+                    done |= open;
+                    for (int r = 0; r < grammar.rules; r++) {
+                        if ((open >> grammar.nameOfRule[r] & 1) == 0) {
+                            continue;
+                        }
                         if (!usefulOnes) {
                             goThrough(r, i, names);
                         } else if (facts.isUsefulRule(r)) {
@@ -1384,8 +1406,9 @@ public final class GrammarHouse {
 
         /** A name that stands next is one of those at the places; the places behind the part. */
         private int enter(int part, int places, int[] names) {
-            for (int k = 0; k <= text.count && part < 0; k++) {
-                names[k] |= (places >> k & 1) << -1 - part;
+            int n = grammar.nameOf(part);
+            for (int k = 0; k <= text.count && n != NONE; k++) {
+                names[k] |= (places >> k & 1) << n;
             }
             return beyond(part, places);
         }
@@ -1420,7 +1443,6 @@ public final class GrammarHouse {
         }
 
         int behind(int k) {
-            chart.refresh();
             if ((known >> k & 1) == 0) {
                 known |= 1 << k;
                 wanted[k] = findWanted(k);
@@ -1519,13 +1541,14 @@ public final class GrammarHouse {
         }
 
         private int costUpTo(int part, int i, int k) {
+            int n = grammar.nameOf(part);
             int least = FAR;
             int fitting = 0;
             for (int e = k; e >= i; e--) {
                 int length = k - e;
-                fitting |= part > 0 && length > 0 && text.fits(part, e) ? 1 : 0;
+                fitting |= length > 0 && n == NONE && text.fits(part, e) ? 1 : 0;
                 if (best[e] < least) {
-                    int own = part < 0 ? cost[costAt(-1 - part, e, k)] : Math.max(length, 1) - fitting;
+                    int own = n != NONE ? cost[costAt(n, e, k)] : Math.max(length, 1) - fitting;
                     least = Math.min(least, best[e] + own);
                 }
             }
@@ -1544,7 +1567,9 @@ public final class GrammarHouse {
         /** The trees of a name over letters, with nothing above it over the same ones; -1: not counted yet. */
         private final long[] plain = new long[NAMES * PLACES * PLACES];
         /** At each depth: of a row the ways of the parts from one on to make the letters from a place on. */
-        private final long[] rest = new long[(NAMES + 1) * ROW];
+        private final long[] rest = new long[NAMES * ROW];
+        /** At each depth: up to where the parts of a row ahead of one make the letters. */
+        private final int[] starts = new int[NAMES * PARTS];
         /** The trees of a name with names above it over the same letters: over no letters, and over some. */
         private long[] under = new long[0];
         private int[] turnOf = new int[0];
@@ -1564,7 +1589,6 @@ public final class GrammarHouse {
         }
 
         long treesOf(int n, int i, int j) {
-            chart.refresh();
             for (int k = ready + 1; k <= j; k++) {
                 for (int from = k; from >= 0; from--) {
                     countOver(from, k);
@@ -1597,7 +1621,7 @@ public final class GrammarHouse {
         }
 
         private long countOf(int n, int i, int j, int above, int depth) {
-            if ((above >> n & 1) != 0 || depth > NAMES || !chart.covers(n, i, j)) {
+            if ((above >> n & 1) != 0 || depth >= NAMES || !chart.covers(n, i, j)) {
                 return 0;
             }
             // Names that can not be below it over the same letters make no difference.
@@ -1644,20 +1668,23 @@ public final class GrammarHouse {
         long countByRule(int r, int i, int j, int above, int depth) {
             int base = depth * ROW;
             int size = grammar.size[r];
+            int places = 1 << i;
+            for (int d = 0; d < size; d++) {
+                starts[depth * PARTS + d] = places;
+                places = chart.beyond(grammar.partAt(r, d), places);
+            }
             for (int k = i; k <= j; k++) {
                 rest[base + size * PLACES + k] = k == j ? 1 : 0;
             }
             for (int d = size - 1; d >= 0; d--) {
-                int places = chart.endsOfRow(r, d, i);
                 for (int k = i; k <= j; k++) {
                     long ways = 0;
-                    if ((places >> k & 1) != 0) {
-                        for (int e = k; e <= j; e++) {
-                            long behind = rest[base + (d + 1) * PLACES + e];
-                            if (behind > 0) {
-                                long own = countOfPart(grammar.partAt(r, d), k, e, i, j, above, depth);
-                                ways = plus(ways, times(own, behind));
-                            }
+                    boolean starting = (starts[depth * PARTS + d] >> k & 1) != 0;
+                    for (int e = k; e <= j && starting; e++) {
+                        long behind = rest[base + (d + 1) * PLACES + e];
+                        if (behind > 0) {
+                            long own = countOfPart(grammar.partAt(r, d), k, e, i, j, above, depth);
+                            ways = plus(ways, times(own, behind));
                         }
                     }
                     rest[base + d * PLACES + k] = ways;
@@ -1673,13 +1700,11 @@ public final class GrammarHouse {
 
         /** The ways of a part of a row over the letters from i up to j to make those from k up to e. */
         long countOfPart(int part, int k, int e, int i, int j, int above, int depth) {
-            if (part > 0) {
+            int n = grammar.nameOf(part);
+            if (n == NONE) {
                 return e == k + 1 && text.fits(part, k) ? 1 : 0;
             }
-            if (k == i && e == j) {
-                return countOf(-1 - part, i, j, above, depth + 1);
-            }
-            return plain[plainAt(-1 - part, k, e)];
+            return k == i && e == j ? countOf(n, i, j, above, depth + 1) : plain[plainAt(n, k, e)];
         }
 
         private static long plus(long a, long b) {
@@ -1707,7 +1732,6 @@ public final class GrammarHouse {
         int count;
         int deepest;
         private final int[] trial = new int[STEPS];
-        private int used;
         private int depth;
         /** What is still to be told, the next one last: a name, or -1 less a letter; of a name the rest. */
         private final int[] node = new int[OPEN];
@@ -1726,23 +1750,29 @@ public final class GrammarHouse {
             this.forest = forest;
         }
 
-        int choose(long k, int letters) {
-            if (k >= forest.treesOf(0, 0, letters)) {
-                return NONE;
-            }
+        /** Tree k of the text, which has as many, is picked. */
+        int choose(long k) {
             depth = 0;
             top = 0;
-            push(0, 0, letters, 0, 1, k);
-            for (used = 0; top > 0; used++) {
+            push(0, 0, text.count, 0, 1, k);
+            int used = 0;
+            for (; top > 0; used++) {
                 if (used == STEPS) {
                     return FULL;
                 }
                 top--;
                 if (node[top] < 0) {
                     trial[used] = node[top];
-                } else if (!open(top)) {
-                    return FULL;
+                    continue;
                 }
+                int r = ruleOf(node[top], top);
+                if (r == NONE) {
+                    return NONE;
+                }
+                trial[used] = r;
+                depth = Math.max(depth, level[top]);
+                shareOut(r, top);
+                pushParts(r, top);
             }
             System.arraycopy(trial, 0, steps, 0, used);
             count = used;
@@ -1762,62 +1792,57 @@ public final class GrammarHouse {
             }
         }
 
-        /** Tells the rule of a name, and leaves its parts to be told. */
-        private boolean open(int at) {
-            int n = node[at];
-            int i = from[at];
-            int j = upTo[at];
+        /** The rule of a name that is to be told; its number is that among the trees by this rule, then. */
+        private int ruleOf(int n, int at) {
             int within = above[at] | 1 << n;
-            int high = level[at];
-            if (i < j && above[at] == 0) {
+            if (from[at] < upTo[at] && above[at] == 0) {
                 forest.takeTurn();
             }
-            long k = number[at];
-            int r = grammar.firstRule[n];
-            long ways = forest.countByRule(r, i, j, within, 0);
-            while (k >= ways && r < grammar.behindRules(n) - 1) {
-                k -= ways;
-                r++;
-                ways = forest.countByRule(r, i, j, within, 0);
+            for (int r = grammar.firstRule[n]; r < grammar.behindRules(n); r++) {
+                long ways = forest.countByRule(r, from[at], upTo[at], within, 0);
+                if (number[at] < ways) {
+                    return r;
+                }
+                number[at] -= ways;
             }
-            int size = grammar.size[r];
-            if (k >= ways || top + size > OPEN) {
-                return false;
-            }
-            trial[used] = r;
-            depth = Math.max(depth, high);
-            shareOut(r, i, j, within, k);
-            for (int d = size - 1; d >= 0; d--) {
-                int start = d == 0 ? i : cut[d - 1];
-                boolean whole = start == i && cut[d] == j;
-                int part = grammar.partAt(r, d);
-                int what = part < 0 ? -1 - part : -1 - text.letterAt(start);
-                push(what, start, cut[d], whole ? within : 0, high + 1, share[d]);
-            }
-            return true;
+            return NONE;
         }
 
-        /** Where each part of the rule ends in tree k by it, and which of the part's own trees it has. */
-        private void shareOut(int r, int i, int j, int within, long k) {
+        /** Where each part of the rule ends, and which of the part's own trees it has. */
+        private void shareOut(int r, int at) {
+            int i = from[at];
+            int j = upTo[at];
+            int within = above[at] | 1 << node[at];
             int start = i;
-            long left = k;
+            long left = number[at];
             for (int d = 0; d < grammar.size[r]; d++) {
-                int part = grammar.partAt(r, d);
                 boolean found = false;
                 for (int e = start; e <= j && !found; e++) {
                     long behind = forest.restAt(d + 1, e);
-                    long own = behind > 0 ? forest.countOfPart(part, start, e, i, j, within, 0) : 0;
-                    long ways = Forest.times(own, behind);
-                    if (left < ways) {
-                        found = true;
+                    if (behind > 0) {
+                        long own = forest.countOfPart(grammar.partAt(r, d), start, e, i, j, within, 0);
+                        long ways = Forest.times(own, behind);
+                        found = left < ways;
                         cut[d] = e;
                         share[d] = left / behind;
-                        left %= behind;
-                    } else {
-                        left -= ways;
+                        left = found ? left % behind : left - ways;
                     }
                 }
                 start = cut[d];
+            }
+        }
+
+        /** The parts of the rule are to be told next, in the place of its name. */
+        private void pushParts(int r, int at) {
+            int i = from[at];
+            int j = upTo[at];
+            int within = above[at] | 1 << node[at];
+            int high = level[at] + 1;
+            for (int d = grammar.size[r] - 1; d >= 0; d--) {
+                int start = d == 0 ? i : cut[d - 1];
+                boolean whole = start == i && cut[d] == j;
+                int n = grammar.nameAt(r, d);
+                push(n != NONE ? n : -1 - text.letterAt(start), start, cut[d], whole ? within : 0, high, share[d]);
             }
         }
     }
@@ -1887,7 +1912,7 @@ public final class GrammarHouse {
             if (part < 0) {
                 return -part;
             }
-            for (int s = 0; s < setCount; s++) {
+            for (int s = 0; s < setCount && s < sets.length; s++) {
                 if (sets[s] == part) {
                     return NAMES + 1 + s;
                 }

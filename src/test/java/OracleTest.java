@@ -11,6 +11,16 @@ import java.util.Set;
 public final class OracleTest {
     private static final Check CHECK = new Check();
     private static final String[] NAME_POOL = {"S", "A", "A1", "A01", "B", "Z9", "Z99", "C", "D", "E0"};
+    /** Ones that the dice would hardly make: all names in circles, the most of all, far ways. */
+    private static final String[] SPECIAL = {
+        "A:B|C|'a';B:C|D|;C:D|E;D:E|F;E:F|G;F:G|H;G:H|A;H:A|B|'b';",
+        "A:B B|C|'a';B:C A|;C:D|E A;D:E|A;E:A|'b'|;",
+        "A:B;B:C;C:D;D:E;E:F;F:G;G:H;H:A|'a'H|;",
+        "A:H G;B:C'a';C:D|;D:E|B;E:F C;F:G|'b';G:H F|;H:A|'ba';",
+        "S:(((S|'a')?'b')*|'a')?;",
+        "S:'abc'+[a-c]?;", "S:S S S S|[a-b]|;", "A1:A01 A A|;A:A1|'b';A01:A?'a';",
+        "S:||||||||||||||||'a'S'b'|S S|;",
+    };
     private static long x;
     private static String tape;
     private static final int[] FAULTS = new int[6];
@@ -107,7 +117,7 @@ public final class OracleTest {
     // ---- comparing
 
     private static void tryGrammar(int g) {
-        tape = grammar(g);
+        tape = g < SPECIAL.length ? SPECIAL[g] : grammar(g);
         Oracle oracle = new Oracle(tape);
         GrammarHouse house = new GrammarHouse();
         due("type", Check.type(house, tape), tape.length());
