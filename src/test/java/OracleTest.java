@@ -249,6 +249,10 @@ public final class OracleTest {
         StringBuilder alphabet = new StringBuilder("a");
         for (Oracle.Rule rule : oracle.rules) {
             for (int part : rule.parts()) {
+                if (part >= 8) {
+                    // Texts with further letters would be too many to write out.
+                    return;
+                }
                 for (char c = 'a'; c <= 'c' && part > 0; c++) {
                     if ((part >> c - 'a' & 1) != 0 && alphabet.indexOf(String.valueOf(c)) < 0) {
                         alphabet.append(c);
