@@ -1665,7 +1665,7 @@ public final class GrammarHouse {
         }
 
         /** The trees by a rule, its name among those above; leaves behind what restAt() tells. */
-        long countByRule(int r, int i, int j, int above, int depth) {
+        private long countByRule(int r, int i, int j, int above, int depth) {
             int base = depth * ROW;
             int size = grammar.size[r];
             int places = 1 << i;
@@ -1699,7 +1699,7 @@ public final class GrammarHouse {
         }
 
         /** The ways of a part of a row over the letters from i up to j to make those from k up to e. */
-        long countOfPart(int part, int k, int e, int i, int j, int above, int depth) {
+        private long countOfPart(int part, int k, int e, int i, int j, int above, int depth) {
             int n = grammar.nameOf(part);
             if (n == NONE) {
                 return e == k + 1 && text.fits(part, k) ? 1 : 0;

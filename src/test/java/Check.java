@@ -2,6 +2,17 @@
 final class Check {
     private int right;
     private int wrong;
+    private String sentence = "";
+    private int told;
+
+    /** The sentence of the document that the calls from here on look at; each needs an answer. */
+    void about(String words) {
+        if (!sentence.isEmpty() && right + wrong == told) {
+            due("nothing is looked at", 0, 1);
+        }
+        sentence = words;
+        told = right + wrong;
+    }
 
     void due(String call, long got, long want) {
         if (got == want) {
@@ -10,8 +21,21 @@ final class Check {
         }
         wrong++;
         if (wrong <= 50) {
-            System.out.println(call + " answered " + got + ", due is " + want);
+            System.out.println((sentence.isEmpty() ? "" : "[" + sentence + "] ") + call + " answered " + got
+                + ", due is " + want);
         }
+    }
+
+    /** A call that is refused with some number, and changes nothing that digest() tells. */
+    void refused(GrammarHouse house, String call, Call one, long want) {
+        long ahead = house.digest();
+        due(call, one.answer(house), want);
+        due("digest() behind " + call, house.digest(), ahead);
+    }
+
+    /** A call that is made later. */
+    interface Call {
+        long answer(GrammarHouse house);
     }
 
     /** Ends the program: with 1 if an answer was wrong, or none was looked at. */
