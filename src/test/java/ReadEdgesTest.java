@@ -24,6 +24,8 @@ public final class ReadEdgesTest {
         emptyRows();
         mostOfAll();
         partNumbers();
+        afterFaults();
+        oneAfterTheOther();
         CHECK.close();
     }
 
@@ -327,5 +329,54 @@ public final class ReadEdgesTest {
         rule(house, 0, 0, -8, -1, 33554432, 50331648);
         rule(good("S:'aab';", 1), 0, 0, 1, 1, 2);
         rule(good("S:[b-b][b-d];", 1), 0, 0, 2, 14);
+    }
+
+    /** What was begun by a tape with a fault is nothing to the next one. */
+    private static void afterFaults() {
+        CHECK.about("THE TAPE is read as a GRAMMAR, in place of the one that is: whatever was read ahead, with faults");
+        String long1 = "S:'ab'(A S'b'|((A A)|'abc'S))+|A;A:((A|'a')'b'|);";
+        String[] good = {"S:;", "S:(S S S(S S S S))|'a';", "S:'ab'?A|A;A:S|(|'b')'aa';"};
+        for (int k = 0; k < long1.length(); k++) {
+            GrammarHouse used = new GrammarHouse();
+            due("a fault of " + long1.substring(0, k), Check.read(used, long1.substring(0, k)) < 0 ? 1 : 0, 1);
+            for (String next : good) {
+                GrammarHouse fresh = new GrammarHouse();
+                due("read() of " + next, Check.read(used, next), Check.read(fresh, next));
+                due("digest() of " + next, used.digest(), fresh.digest());
+                for (int r = 0; r < fresh.sum(2); r++) {
+                    for (int i = 0; i < fresh.rule(r, 1); i++) {
+                        due("part(" + r + ", " + i + ") of " + next, used.part(r, i), fresh.part(r, i));
+                    }
+                }
+            }
+        }
+    }
+
+    private static void oneAfterTheOther() {
+        CHECK.about("THE TAPE is read as a GRAMMAR, in place of the one that is: whatever was read ahead, without faults");
+        String[] tapes = {"S:'a'|'b'|'c'|S S|;", "S:'a'|'b'N|N;N:N;", "S:S;A:'a';", "S:A|;A:A'a'|S;B:'b'B|'c';C:B A S|C;",
+            "S:S S S S|'a'|'abc'?'z';", "A:B;B:C;C:D;D:E;E:F;F:G;G:H;H:'h'A|;", "S:" + "|".repeat(19) + ";", "S:N S|N;N:S;",
+            "A:B'b'|N;B:A'a'|;N:N A;"};
+        for (String ahead : tapes) {
+            for (String next : tapes) {
+                GrammarHouse used = Check.houseOf(ahead);
+                Check.put(used, "abc");
+                used.digest();
+                used.pick(0);
+                GrammarHouse fresh = Check.houseOf(next);
+                due("read() of " + next + " behind " + ahead, Check.read(used, next), fresh.sum(2));
+                due("digest()", used.digest(), fresh.digest());
+                for (int n = 0; n < fresh.sum(1); n++) {
+                    for (int c = 0; c <= 26; c++) {
+                        due("table(" + n + ", " + c + ") of " + next, used.table(n, c), fresh.table(n, c));
+                    }
+                    due("trees(" + n + ", 0, 0) of " + next, used.trees(n, 0, 0), fresh.trees(n, 0, 0));
+                }
+                Check.put(used, "hab");
+                Check.put(fresh, "hab");
+                due("repair() of " + next, used.repair(), fresh.repair());
+                due("digest() of hab in " + next, used.digest(), fresh.digest());
+            }
+        }
     }
 }

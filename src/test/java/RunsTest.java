@@ -8,7 +8,7 @@ public final class RunsTest {
     private static final String[] TAPES = {
         "S:S S|'a'|'b'S'b'|;", "S:A'b'?|'c'A;A:S|'a'*|;B:S;", "S:((S|'a')+|'bc'?)*;", "S:'ab'S|A;A:[a-c]A|;",
         "S:A A A A;A:B B B B;B:C C C C;C:S|'a'|;", "S:S A;A:'a'|;", "S:'a", "S:S S;;", "S:A|'a';", "S:;S:;",
-        "S:S S S S S;", "A:B|C|D|;B:A|C|D|'a';C:A|B|D|'b';D:A B C|'c'|;", "S:;", "  ", "S:[a-z]S?;",
+        "S:S S S S S;", "S:'a'S|'b'N|'b';N:N'a';B:'b';", "S:((S S S", "S:'ab'(S(S S'a'#", "A:B|C|D|;B:A|C|D|'a';C:A|B|D|'b';D:A B C|'c'|;", "S:;", "  ", "S:[a-z]S?;",
         "A:B C|'a';B:C D|'b'|;C:D E|A;D:E F|'c'|;E:F G|B;F:G H|'d'|;G:H A|C;H:A B|;",
     };
     private static long x;

@@ -36,6 +36,7 @@ public final class TreeEdgesTest {
         uselessAtLast();
         alikePairs();
         mostPairs();
+        properOfTheLatest();
         properly();
         digestWithout();
         digestWith();
@@ -463,6 +464,25 @@ public final class TreeEdgesTest {
         properOf(four, twos + threes + 4 + 7 + 7, 8, 2 * twos + 3 * threes + 4 * 4 + 7 + 7);
         // Eight names in a ring have the rows of all: twelve rows of two, of S alone.
         properOf("A:B|'aa'|'ab';B:C|'ba'|'bb';C:D|'ca';D:E|'da';E:F|'ea';F:G|'fa';G:H|'ga';H:A|'ha';", 10, 1, 20);
+    }
+
+    private static void properOfTheLatest() {
+        CHECK.about("Of the proper grammar: of the GRAMMAR as it is, however many sets were in others");
+        GrammarHouse house = new GrammarHouse();
+        for (int width = 1; width <= 12; width++) {
+            StringBuilder tape = new StringBuilder("S:");
+            int rows = 0;
+            for (char c = 'a'; c + width <= 'z' && rows < 20; c++) {
+                tape.append(rows == 0 ? "" : "|").append('[').append(c).append('-').append((char) (c + width)).append(']');
+                rows++;
+            }
+            due("read() of " + tape, Check.read(house, tape + ";"), rows);
+            due("proper(0) of " + tape, house.proper(0), rows);
+            due("proper(2) of " + tape, house.proper(2), rows);
+        }
+        due("read()", Check.read(house, "S:A;A:'a'|;"), 3);
+        due("proper(0)", house.proper(0), 1);
+        due("proper(1)", house.proper(1), 1);
     }
 
     private static void properly() {
