@@ -403,8 +403,9 @@ public final class GrammarHouse {
         for (int k = 0; k < text.count; k++) {
             h = mix(h, text.letters[k]);
         }
+        chart.refresh();
         for (int k = 0; k <= text.count; k++) {
-            h = mix(mix(mix(h, next(k)), items(k)), end(k));
+            h = mix(mix(mix(h, chart.goOn[k]), chart.itemCount[k]), wants.behind(k));
         }
         for (int i = 0; i < picker.count; i++) {
             h = mix(h, picker.steps[i]);
@@ -1326,7 +1327,7 @@ public final class GrammarHouse {
                 for (int r = 0; r < grammar.rules; r++) {
                     int at = grammar.nameOfRule[r] * PLACES + i;
                     int found = ends[at] | endsOfRow(r, grammar.size[r], i);
-                    more |= found != ends[at];
+                    more = more || found != ends[at];
                     ends[at] = found;
                 }
             }
@@ -1511,7 +1512,7 @@ public final class GrammarHouse {
                     for (int r = 0; r < grammar.rules; r++) {
                         int at = costAt(grammar.nameOfRule[r], i, j);
                         int now = facts.isUsefulRule(r) ? costOfRow(r, i, j) : FAR;
-                        found |= now < cost[at];
+                        found = found || now < cost[at];
                         cost[at] = Math.min(cost[at], now);
                     }
                 }
@@ -1897,7 +1898,7 @@ public final class GrammarHouse {
                         row = row * DIGIT + digitOf(grammar.partAt(r, d));
                     } else {
                         int n = grammar.nameAt(r, d);
-                        may &= n != NONE && (facts.empty >> n & 1) != 0;
+                        may = may && n != NONE && (facts.empty >> n & 1) != 0;
                     }
                 }
                 if (may && row >= 1 && row <= NAMES) {

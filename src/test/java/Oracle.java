@@ -1,3 +1,4 @@
+import java.math.BigInteger;
 import java.util.ArrayDeque;
 import java.util.ArrayList;
 import java.util.Arrays;
@@ -678,6 +679,93 @@ final class Oracle {
             }
         }
         return found;
+    }
+
+    private final Map<List<Object>, BigInteger> countKnown = new HashMap<>();
+
+    /** How many trees there are, all names above told, without writing them out. */
+    BigInteger count(int n, String letters, int i, int j, Set<List<Integer>> above) {
+        List<Integer> self = List.of(n, i, j);
+        if (above.contains(self)) {
+            return BigInteger.ZERO;
+        }
+        Set<List<Integer>> within = new HashSet<>(above);
+        within.removeIf(a -> a.get(1) != i || a.get(2) != j);
+        List<Object> key = List.of(self, Set.copyOf(within), letters);
+        BigInteger all = countKnown.get(key);
+        if (all == null) {
+            within.add(self);
+            all = BigInteger.ZERO;
+            for (Rule rule : rules) {
+                if (rule.name == n) {
+                    all = all.add(countRow(rule.parts, letters, i, j, within));
+                }
+            }
+            countKnown.put(key, all);
+        }
+        return all;
+    }
+
+    private BigInteger countRow(List<Integer> parts, String letters, int i, int j, Set<List<Integer>> above) {
+        if (parts.isEmpty()) {
+            return i == j ? BigInteger.ONE : BigInteger.ZERO;
+        }
+        BigInteger all = BigInteger.ZERO;
+        for (int e = i; e <= j; e++) {
+            BigInteger own = countPart(parts.get(0), letters, i, e, above);
+            if (own.signum() > 0) {
+                all = all.add(own.multiply(countRow(parts.subList(1, parts.size()), letters, e, j, above)));
+            }
+        }
+        return all;
+    }
+
+    private BigInteger countPart(int part, String letters, int i, int e, Set<List<Integer>> above) {
+        return part < 0 ? count(-1 - part, letters, i, e, above)
+            : partMakes(part, letters.substring(i, e)) ? BigInteger.ONE : BigInteger.ZERO;
+    }
+
+    /** The steps of tree k, of those that count() counts; how deep its names stand is what comes back. */
+    int tell(int n, String letters, int i, int j, Set<List<Integer>> above, BigInteger k, List<Integer> steps) {
+        Set<List<Integer>> within = new HashSet<>(above);
+        within.add(List.of(n, i, j));
+        BigInteger left = k;
+        for (int r = 0; r < rules.size(); r++) {
+            if (rules.get(r).name == n) {
+                BigInteger here = countRow(rules.get(r).parts, letters, i, j, within);
+                if (left.compareTo(here) < 0) {
+                    steps.add(r);
+                    return 1 + tellRow(rules.get(r).parts, letters, new int[] {i, j}, within, left, steps);
+                }
+                left = left.subtract(here);
+            }
+        }
+        throw new IllegalStateException("no such tree");
+    }
+
+    private int tellRow(List<Integer> parts, String letters, int[] span, Set<List<Integer>> above, BigInteger k,
+        List<Integer> steps) {
+        if (parts.isEmpty()) {
+            return 0;
+        }
+        List<Integer> others = parts.subList(1, parts.size());
+        BigInteger left = k;
+        for (int e = span[0]; e <= span[1]; e++) {
+            BigInteger behind = countRow(others, letters, e, span[1], above);
+            BigInteger here = countPart(parts.get(0), letters, span[0], e, above).multiply(behind);
+            if (left.compareTo(here) < 0) {
+                BigInteger[] shares = left.divideAndRemainder(behind);
+                int deep = 0;
+                if (parts.get(0) < 0) {
+                    deep = tell(-1 - parts.get(0), letters, span[0], e, above, shares[0], steps);
+                } else {
+                    steps.add(-1 - (letters.charAt(span[0]) - 'a'));
+                }
+                return Math.max(deep, tellRow(others, letters, new int[] {e, span[1]}, above, shares[1], steps));
+            }
+            left = left.subtract(here);
+        }
+        throw new IllegalStateException("no such row");
     }
 
     // ---- the proper grammar
